@@ -119,6 +119,9 @@ public final class MemoryTest {
         Checks.due("a RACE was started", r.runner(0, 1), NONE);
         r.tick(60);
         Checks.due("OUT at x 4", r.look(0, 0), 4);
+        Checks.due("anew from the starts of the first BROOK", r.start(0L), true);
+        Checks.due("RUNNER 0 is at LANE 0", r.look(0, 1), 0);
+        Checks.due("RUNNER 1 is at LANE 2", r.look(1, 1), 2);
         r.on(1);
         Checks.due("back when no RACE is", r.back(), 1);
         alike("back when no RACE is", r, kept);
@@ -189,6 +192,12 @@ public final class MemoryTest {
         Checks.due("x -1", r.passed(0, -1), NONE);
         Checks.due("RUNNER 3", r.passed(3, 1), NONE);
         Checks.due("RUNNER -1", r.passed(-1, 1), NONE);
+        r.on(0);
+        r.runner(0, 3);
+        r.start(0L);
+        r.tick(6);
+        Checks.due("a RUNNER that is gone", r.passed(1, 1), NONE);
+        Checks.due("LEADERS are not of those that are gone", r.led(0), 6);
         StickRace fast = Checks.onBrook("9999999999999999;9999999999999999", "l1");
         fast.runner(0, 0);
         fast.start(0L);
@@ -226,6 +235,24 @@ public final class MemoryTest {
         out.tick(60);
         Checks.due("the one of PLACE 0", out.leader(8), 1);
         Checks.due("x is alike", out.was(0, 8, 0), out.was(1, 8, 0));
+        out.image();
+        out.on(0);
+        out.runner(0, 1);
+        out.start(0L);
+        out.tick(2);
+        Checks.due("none that is gone is LEADER", out.leader(2), 0);
+        out.tick(60);
+        out.back();
+        for (int t = 1; t <= 8; t++) {
+            Checks.due("LEADERS of the IMAGE, TICK " + t, out.leader(t), 1);
+        }
+        StickRace stuck = Checks.onBrook("444o;444o", "l1");
+        stuck.runner(0, 1);
+        stuck.start(0L);
+        stuck.tick(60);
+        Checks.due("TICK 60", stuck.leader(60), 0);
+        Checks.due("TICK 61", stuck.leader(61), NONE);
+        Checks.due("LED behind sixty TICKS", stuck.led(0), 60);
     }
 
     /** Promise 37. */
@@ -243,6 +270,10 @@ public final class MemoryTest {
         Checks.due("the LEADER at the START does not count", r.led(0), 0);
         Checks.due("the LEADER behind TICK 1 does", r.led(1), 1);
         Checks.due("from that of the START to that of TICK 1 is no CHANGE", r.led(NONE), 0);
+        r.tick(1);
+        Checks.due("a CHANGE behind TICK 2", r.led(NONE), 1);
+        r.tick(1);
+        Checks.due("another one behind TICK 3", r.led(NONE), 2);
         r.tick(60);
         int[][] due = {{0, 1}, {1, 1}, {2, 11}, {NONE, 2}, {3, NONE}, {-2, NONE}};
         for (int[] d : due) {

@@ -172,7 +172,7 @@ public final class RaceTest {
         int[][] due = {
             // STICK, y, PULL with HIGH 0, with HIGH 3
             {0, 0, 1, 4}, {0, 1, 9, 12}, {1, 0, 9, 12}, {1, 2, 4, 7}, {2, 0, 4, 7}, {2, 1, 5, 8}, {3, 0, 4, 7},
-            {4, 1, 8, 11}, {5, 1, 8, 11}, {6, 1, 7, 10}, {6, 0, 0, 2}, {0, 5, 1, 4}, {4, 5, 0, 3},
+            {2, 0, 4, 7}, {4, 1, 8, 11}, {5, 1, 8, 11}, {6, 1, 7, 10}, {6, 0, 0, 2}, {0, 5, 1, 4}, {4, 5, 0, 3},
         };
         for (int[] d : due) {
             r.on(0);
@@ -187,6 +187,9 @@ public final class RaceTest {
         // 3 and 11 and 5 and 6 and 1 (the STONE, whatever HIGH is): 26 by 5, less 2.
         r.runner(7, 0);
         Checks.due("PULL over a STONE", r.pull(0), 3);
+        StickRace cut = Checks.onBrook("2444;3444;3444", "l3");
+        cut.runner(0, 0);
+        Checks.due("8 by 3, cut", cut.pull(0), 2);
         Checks.due("no RUNNER 1", r.pull(1), NONE);
         Checks.due("no RUNNER -1", r.pull(-1), NONE);
         StickRace out = Checks.onBrook("4444;4444", "l1");
@@ -208,6 +211,24 @@ public final class RaceTest {
         looks("no WAVE yet", r, 0, 0, 0, 3);
         r.tick(1);
         looks("two further on: a WAVE", r, 0, 1, 0, 3);
+
+        StickRace near = Checks.onBrook("1111;4444", "l1", "f9");
+        near.weather(0, -1);
+        near.runner(0, 0);
+        near.runner(1, 1);
+        run(near, 2);
+        looks("RUNNER 1 is one further on", near, 1, 1, 0, 1);
+        looks("one further on: a WAVE", near, 0, 0, 0, 3);
+        StickRace turned = Checks.onBrook("1111;4444", "l1", "f9");
+        turned.weather(0, -1);
+        turned.runner(1, 1);
+        turned.runner(0, 0);
+        run(turned, 1);
+        looks("a WAVE of RUNNER 0", turned, 1, 0, 0, 2);
+        near.on(0);
+        near.runner(0, 0);
+        run(near, 1);
+        looks("no WAVE of RUNNERS that are gone", near, 0, 0, 0, 1);
 
         StickRace far = Checks.onBrook("11411111;88888888", "l1", "f9");
         far.weather(0, -1);
@@ -473,6 +494,8 @@ public final class RaceTest {
         Checks.due("what -1", r.look(0, -1), HIDDEN);
         run(r, 4);
         looks("OUT", r, 0, 4, 1, 0, 4, 0, 0, 0);
+        run(r, 0);
+        looks("started anew", r, 0, 0, 1, 0, NONE, 1, 0, 0);
     }
 
     /** Promise 17. */

@@ -271,8 +271,20 @@ public final class SeedsTest {
         Checks.due("HIGH stays", r.count(7), 3);
         Checks.due("HIGH 4", r.same(0, 4, 1), NONE);
         Checks.due("HIGH -1", r.same(-1, 0, 1), NONE);
+        Checks.due("HIGH 4 first", r.same(4, 0, 1), NONE);
+        Checks.due("HIGH -1 last", r.same(0, -1, 1), NONE);
         Checks.due("n 0", r.same(0, 0, 0), NONE);
         Checks.due("n 41", r.same(0, 0, 41), NONE);
+        StickRace one = Checks.onBrook("444o;444o", "l1");
+        one.runner(0, 1);
+        Checks.due("OUT or never OUT", one.same(1, 2, 5), 0);
+        // Without WIND the STONE ahead is met with HIGH 0 alone; with WIND RUNNER 0 leaves that LANE ahead of it.
+        StickRace w = Checks.onBrook("444o4444;o4444444;o3333333;33333333", "f9", "l1");
+        w.runner(0, 0);
+        w.runner(1, 3);
+        Checks.due("without WIND", w.same(0, 2, 1), same(w, 0, 2));
+        w.weather(0, 1);
+        Checks.due("with WIND", w.same(0, 2, 1), same(w, 0, 2));
         // Of the first four seeds RUNNER 0 loses with seed 1 alone; with HIGH 1 it loses with none.
         StickRace e = eddyAgainstSlow();
         int[] due = {1, 1, 2, 3};
@@ -287,6 +299,23 @@ public final class SeedsTest {
         Checks.due("CAN not lie with a", high.same(1, 2, 3), NONE);
         Checks.due("CAN not lie with b", high.same(2, 1, 3), NONE);
         Checks.due("as it is now does not count", high.same(2, 3, 3), 3);
+    }
+
+    /** Whether the RACE with seed 0 ends alike, by two RACES. */
+    private static int same(StickRace r, int a, int b) {
+        int before = r.count(7);
+        StringBuilder places = new StringBuilder();
+        for (int high : new int[] {a, b}) {
+            r.weather(1, high);
+            r.start(0L);
+            r.tick(60);
+            for (int i = 0; i < r.count(2); i++) {
+                places.append(r.look(i, 4));
+            }
+        }
+        r.weather(1, before);
+        int half = places.length() / 2;
+        return places.substring(0, half).equals(places.substring(half)) ? 1 : 0;
     }
 
     private static void carving(StickRace r, int y, int rule, int length, int heavy, int feather, int ticks) {
@@ -330,6 +359,14 @@ public final class SeedsTest {
         carving(h, 0, 8, 1, 0, 0, 6);
         carving(h, 0, 9, 1, 7, 0, 3);
         carving(h, 0, 30, 1, 7, 0, 3);
+        // Here HEAVY 7 and 8 stand still for ever on the PACE of 1 at x 2, HEAVY 9 stops at x 1.
+        StickRace nine = Checks.onBrook("9818;1111", "l1");
+        carving(nine, 0, 10, 1, 0, 0, 5);
+        carving(nine, 0, 11, 1, 9, 0, 3);
+        // Only one of LENGTH 5 reaches the fast LANE: 13 by 5.
+        StickRace five = Checks.onBrook("1111;1111;1111;1111;9999", "l1");
+        carving(five, 0, 9, 1, 0, 0, 16);
+        carving(five, 0, 10, 5, 0, 0, 8);
         StickRace never = Checks.onBrook("@444;@444", "l1");
         never.weather(2, 10);
         carving(never, 0, 30, 1, 0, 0, 99);

@@ -61,8 +61,13 @@ public final class TextsTest {
         Checks.due("two more than 159", r.feed('l', 0, 0, 0, '1'), NONE);
         Checks.due("the TAPE stays at 159", r.count(4), 159);
         Checks.due("nothing of what was refused is there", r.fault(1), 159);
+        Checks.due("two in the second number", r.feed(0, 0x010001, 0, 0, 0), NONE);
+        Checks.due("two in the third number", r.feed(0, 0, 0x7F007F00, 0, 0), NONE);
+        Checks.due("two in the fourth number", r.feed(0, 0, 0, 0xFFFF0000, 0), NONE);
+        Checks.due("two in the fifth number", r.feed(0, 0, 0, 0, 0x80000001), NONE);
         Checks.due("the last that is taken", r.feed(0, 0, 'q', 0, 0), 160);
         Checks.due("it is the last", r.fault(1), 159);
+        Checks.due("a byte of 1 is one too", r.feed(0, 0, 0, 1, 0), NONE);
     }
 
     /** Promise 3. */
@@ -169,6 +174,9 @@ public final class TextsTest {
         fault(1, " l 1 , h 2 , f 3 ", NONE);
         fault(1, "l1,h2,f3x", 8);
         fault(1, "l1;h2", 2);
+        // Behind all three letters a fourth ITEM is missing, or its letter was there, as the document tells of letters.
+        fault(1, "l1,h2,f3,", 9);
+        fault(1, "l1,h2,f3, h4", 10);
         fault(1, "h" + (char) 0xB2, 1);
     }
 

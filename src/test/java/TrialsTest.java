@@ -95,6 +95,17 @@ public final class TrialsTest {
         Checks.due("no BROOK 3", r.plan(8, 1, 0), NONE);
         Checks.due("no STICKS", r.plan(7, 0, 0), NONE);
         Checks.due("no STICK 2", r.plan(7, 4, 0), NONE);
+        // Of LENGTH 2 the greater PACE counts: from LANE 1 it parts two pairs, from LANE 0 one.
+        Checks.stick(r, "h5,l2");
+        Checks.due("another STICK's TRIALS", r.plan(7, 4, 0), 1);
+        Checks.due("two LANES at once", r.plan(7, 4, 1), 3);
+        Checks.due("a TRIAL of the later STICK", brooks("141", "214").plan(3, 3, 1), 1);
+        StickRace h = brooks("41", "42", "44");
+        Checks.stick(h, "h9");
+        // h9 has PACE 2 on LANE 0 everywhere; on LANE 1 it has 0, 0 and 2.
+        Checks.due("h9 on LANE 1", h.plan(7, 4, 0), 1);
+        Checks.due("h9 parts two pairs", h.plan(7, 4, 1), 2);
+        Checks.due("as does FEWEST", h.fewest(7, 4), 2);
         Checks.due("several of two pairs", brooks("111", "211", "122").plan(7, 1, 0), 0);
     }
 
@@ -152,6 +163,10 @@ public final class TrialsTest {
         r.weather(1, 0);
         r.sight(1, 0, 99);
         Checks.due("where it CAN not lie nothing AGREES", r.agree(), 0);
+        StickRace heavy = brooks("444", "222", "111");
+        Checks.stick(heavy, "h9");
+        heavy.sight(2, 1, 8);
+        Checks.due("PACE 2 of a heavy one", heavy.agree(), 1);
         StickRace stuck = Checks.onBrook("444o;444o", "l1");
         stuck.sight(0, 1, 99);
         Checks.due("99: not OUT", stuck.agree(), 1);
@@ -187,6 +202,8 @@ public final class TrialsTest {
         Checks.due("it does not AGREE itself", r.agree(), 0);
 
         StickRace s = Checks.onBrook("4444;4444", "l1");
+        Checks.due("another BROOK", Checks.brook(s, "oooo;ooo1;ooo1;oooo"), 1);
+        Checks.due("of the other one two CELLS", s.stoned(1, NONE), 2);
         s.sight(0, 0, 5);
         s.sight(0, 1, 4);
         int[] due = {1, 2, 3};

@@ -59,6 +59,13 @@ public final class TurnsTest {
         Checks.due("none CAN lie: no k", high.rounds(0, 1, 2), 0);
         Checks.due("no WINS", high.rounds(0, 1, 0), 0);
         Checks.due("no SUM", high.rounds(0, 1, 1), 0);
+        // RUNNER 0 from LANE 2, RUNNER 1 from LANE 1: turned by 1 the other way round.
+        StickRace swap = Checks.onBrook("o444;1111;4444", "l1");
+        swap.runner(0, 2);
+        swap.runner(0, 1);
+        Checks.due("k 0 and k 1 of two", swap.rounds(0, 1, 2), 2);
+        Checks.due("one WIN each", swap.rounds(0, 1, 0), 1);
+        Checks.due("SUM 1 each", swap.rounds(1, 1, 1), 1);
         StickRace e = SeedsTest.eddyAgainstSlow();
         // k 0: RUNNER 0 wins with seeds 0, 2, 3 of four. Turned it is slow, and with seed 2 both are OUT in TICK 8.
         Checks.due("k 0 and k 1", e.rounds(0, 1, 2), 2);
@@ -116,12 +123,18 @@ public final class TurnsTest {
             Checks.due("ladder of " + d[0] + ", one more", r.ladder(0, d[0], 2, d.length - 1), NONE);
             Checks.due("ladder of " + d[0] + ", -2", r.ladder(0, d[0], 2, -2), NONE);
         }
+        Checks.brook(r, "4444;1111");
+        Checks.due("the y of LANE 0 is l1's BEST", r.ladder(2, 12, 2, 0), 3);
+        Checks.due("then h7", r.ladder(2, 12, 2, 1), 2);
+        Checks.brook(r, "4444;1111;9999");
+        Checks.due("a heavy one from LANE 2, l2 from LANE 1", r.ladder(3, 17, 2, 0), 4);
         Checks.due("where none CAN lie", r.ladder(1, 63, 2, NONE), 0);
         Checks.due("where none CAN lie, the first", r.ladder(1, 63, 2, 0), NONE);
         Checks.due("no STICKS", r.ladder(0, 0, 2, NONE), NONE);
         Checks.due("no STICK 6", r.ladder(0, 64, 2, NONE), NONE);
         Checks.due("bits below 0", r.ladder(0, -1, 2, NONE), NONE);
-        Checks.due("BROOK 2", r.ladder(2, 1, 2, NONE), NONE);
+        Checks.due("BROOK 4", r.ladder(4, 1, 2, NONE), NONE);
+        Checks.due("BROOK -1", r.ladder(-1, 1, 2, NONE), NONE);
         Checks.due("n 0", r.ladder(0, 1, 0, NONE), NONE);
         Checks.due("n 41", r.ladder(0, 1, 41, NONE), NONE);
         // h5 and h6 are fastest, h7 and h8 come next (PACE less 1), then h9 (less 2).
