@@ -5,6 +5,8 @@ public final class MemoryTest {
     public static void main(String[] args) {
         image();
         imageOfDraws();
+        imageOfPlaces();
+        imageOfSixtyTicks();
         imageOfBrooks();
         was();
         passed();
@@ -96,6 +98,40 @@ public final class MemoryTest {
             r.back();
             r.tick(30);
             alike("the draws go on as they did", r, first);
+        }
+    }
+
+    private static void imageOfPlaces() {
+        StickRace r = Checks.onBrook("1111;4444", "l1");
+        r.runner(0, 0);
+        r.runner(0, 1);
+        r.start(0L);
+        r.tick(5);
+        r.image();
+        r.start(0L);
+        r.back();
+        Checks.due("one is OUT, eleven TICKS are left", r.tick(60), 11);
+        Checks.due("the other one comes in second", r.look(0, 4), 1);
+    }
+
+    private static void imageOfSixtyTicks() {
+        StickRace r = Checks.onBrook("1111;444o;1111;444o", "l1");
+        r.weather(2, 10);
+        Checks.brook(r, "@444;4@44");
+        r.on(1);
+        r.runner(0, 0);
+        r.runner(0, 1);
+        r.start(0L);
+        r.tick(60);
+        r.image();
+        r.on(1);
+        r.runner(0, 1);
+        r.start(0L);
+        r.tick(60);
+        Checks.due("another LEADER", r.leader(60), 0);
+        r.back();
+        for (int t = 1; t <= 60; t++) {
+            Checks.due("LEADER of the IMAGE behind " + t, r.leader(t), 1);
         }
     }
 

@@ -126,6 +126,7 @@ public final class TurnsTest {
         Checks.brook(r, "4444;1111");
         Checks.due("the y of LANE 0 is l1's BEST", r.ladder(2, 12, 2, 0), 3);
         Checks.due("then h7", r.ladder(2, 12, 2, 1), 2);
+        Checks.due("l2, which fits from LANE 0 alone", r.ladder(2, 16, 2, NONE), 1);
         Checks.brook(r, "4444;1111;9999");
         Checks.due("a heavy one from LANE 2, l2 from LANE 1", r.ladder(3, 17, 2, 0), 4);
         Checks.due("where none CAN lie", r.ladder(1, 63, 2, NONE), 0);
