@@ -6,15 +6,25 @@ final class Checks {
     static final int HIDDEN = StickRace.HIDDEN;
     private static int wrong = 0;
     private static int done = 0;
+    private static String subject = "";
 
     private Checks() {
+    }
+
+    /** What the next answers are about: it stands ahead of each that is not as due. */
+    static void about(String what) {
+        subject = what.isEmpty() ? "" : what + ": ";
+    }
+
+    static int done() {
+        return done;
     }
 
     static void due(String what, long got, long want) {
         done++;
         if (got != want) {
             wrong++;
-            System.out.println(what + " answered " + got + ", due is " + want);
+            System.out.println(subject + what + " answered " + got + ", due is " + want);
         }
     }
 
@@ -27,7 +37,7 @@ final class Checks {
         try {
             r.brook(brook, what);
             wrong++;
-            System.out.println("brook(" + brook + ", " + what + ") did not throw");
+            System.out.println(subject + "brook(" + brook + ", " + what + ") did not throw");
         } catch (NoSuchElementException e) {
             // That is what is due.
         }
@@ -99,7 +109,7 @@ final class Checks {
         done++;
         if (!state(r).equals(before)) {
             wrong++;
-            System.out.println(what + " changed the state from " + before + " to " + state(r));
+            System.out.println(subject + what + " changed the state from " + before + " to " + state(r));
         }
     }
 
