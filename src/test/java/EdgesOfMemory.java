@@ -43,7 +43,8 @@ final class EdgesOfMemory {
 
     /** RACES of several RUNNERS: with strikes, EDDIES and WIND, one with nobody OUT, one with six. */
     private static StickRace race(int which) {
-        String[] brooks = {"4o4434;4@@444;4o44o4;33@434;2222o2", "444o;444o;o444", "9999;8888;7777;6666;5555;4444", "4444444444444444;3333333333333333"};
+        String[] brooks = {"4o4434;4@@444;4o44o4;33@434;2222o2", "444o;444o;o444", "9999;8888;7777;6666;5555;4444",
+            "4444444444444444;3333333333333333"};
         StickRace r = Checks.onBrook(brooks[which], "l1", "f9", "l2");
         r.weather(0, which == 0 ? -1 : 0);
         if (which == 0) {
@@ -78,7 +79,8 @@ final class EdgesOfMemory {
     }
 
     private static void whereTheyWere() {
-        Edge.of("Terms 5", "Of the RACE as it was run since its START: WAS: x and y of a RUNNER behind a TICK (0: at the START).");
+        Edge.of("Terms 5", "Of the RACE as it was run since its START: WAS: x and y of a RUNNER behind a TICK (0: at the "
+            + "START).");
         for (int which = 0; which < 4; which++) {
             List<int[][]> due = watched(race(which));
             int ticks = due.size() - 1;
@@ -135,7 +137,8 @@ final class EdgesOfMemory {
     }
 
     private static void leaders() {
-        Edge.of("Terms 5", "LEADER behind a TICK (0: at the START): of those OUT the one of PLACE 0, else the RUNNER with the greatest x (of several the lowest).");
+        Edge.of("Terms 5", "LEADER behind a TICK (0: at the START): of those OUT the one of PLACE 0, else the RUNNER with "
+            + "the greatest x (of several the lowest).");
         for (int which = 0; which < 4; which++) {
             int[] due = leadersDue(which);
             StickRace r = race(which);
@@ -161,14 +164,15 @@ final class EdgesOfMemory {
         for (int which = 0; which < 4; which++) {
             int[] leaders = leadersDue(which);
             StickRace r = race(which);
-            int[] due = new int[6];
+            int runners = r.count(2);
+            int[] due = new int[runners];
             int changes = 0;
             for (int t = 0; t < leaders.length; t++) {
                 if (t >= 1) {
                     due[leaders[t]]++;
                 }
                 changes += t >= 2 && leaders[t] != leaders[t - 1] ? 1 : 0;
-                for (int i = 0; i < r.count(2); i++) {
+                for (int i = 0; i < runners; i++) {
                     Checks.due("race " + which + " behind " + t + ": led(" + i + ")", r.led(i), due[i]);
                 }
                 Checks.due("race " + which + " behind " + t + ": led(NONE)", r.led(NONE), changes);
@@ -188,26 +192,24 @@ final class EdgesOfMemory {
     }
 
     private static void strikesByX() {
-        Edge.of("Terms 5", "STRUCK at an x: how many strikes RUNNERS made there; NARROW: the x with the most (of several the lowest).");
+        Edge.of("Terms 5", "STRUCK at an x: how many strikes RUNNERS made there; NARROW: the x with the most (of several "
+            + "the lowest).");
         for (int which = 0; which < 2; which++) {
             StickRace r = race(which);
+            int runners = r.count(2);
             int[] due = new int[17];
-            int before = 0;
-            for (int t = 1; t <= 60; t++) {
-                int[] x = new int[3];
-                int[] strikes = new int[3];
-                for (int i = 0; i < r.count(2); i++) {
-                    strikes[i] = r.look(i, 6);
-                }
-                r.tick(1);
-                for (int i = 0; i < r.count(2) && r.count(5) == t; i++) {
-                    // Where it is behind the TICK in which it struck.
-                    x[i] = r.look(i, 0);
-                    due[x[i]] += r.look(i, 6) - strikes[i];
-                    before += r.look(i, 6) - strikes[i];
+            int[] strikes = new int[runners];
+            while (r.tick(1) == 1) {
+                for (int i = 0; i < runners; i++) {
+                    // A strike ends the TICK: it was made where the RUNNER is behind that TICK.
+                    int more = r.look(i, 6) - strikes[i];
+                    if (more > 0) {
+                        due[r.look(i, 0)] += more;
+                        strikes[i] += more;
+                    }
                 }
             }
-            Checks.due("some strikes (1: yes)", before > 1, true);
+            Checks.due("some strikes (1: yes)", Arrays.stream(strikes).sum() > 1, true);
             int narrow = NONE;
             for (int at = 15; at >= 0; at--) {
                 Checks.due("race " + which + ": struck(" + at + ")", r.struck(at), due[at]);
@@ -255,7 +257,8 @@ final class EdgesOfMemory {
     }
 
     private static void turnedRound() {
-        Edge.of("Terms 5", "TURNED k: RUNNER i with its STICK begins at the y of RUNNER i and k (going round, by how many RUNNERS there are), for all k from 0 on; "
+        Edge.of("Terms 5", "TURNED k: RUNNER i with its STICK begins at the y of RUNNER i and k (going round, by how many "
+            + "RUNNERS there are), for all k from 0 on; "
             + "only those k count in which all CAN lie so, no two on one CELL.");
         int[] counts = {3, 2, 1, 2, 1, 6};
         for (int which = 0; which < TURNING.length; which++) {
@@ -320,7 +323,8 @@ final class EdgesOfMemory {
     }
 
     private static void duels() {
-        Edge.of("Terms 5", "DUEL of two STICKS on a BROOK: over all y of the first, z of the second where both can be, and n seeds: "
+        Edge.of("Terms 5", "DUEL of two STICKS on a BROOK: over all y of the first, z of the second where both can be, "
+            + "and n seeds: "
             + "WINS of the first (RUNNER 0) less those of the second.");
         String[] brooks = {EDDIES, "4@44;2222", "o444;4444;o444", "o444;o444;4444", "444@4;34444;4@4@4;o4444;444o4;44444"};
         String[] sticks = {"l1", "h9", "l2", "l4", "f9"};
@@ -330,7 +334,8 @@ final class EdgesOfMemory {
                     int n = 1 + (brook.length() + one.charAt(1) + 5 * other.charAt(1)) % 6;
                     StickRace r = Checks.onBrook(brook, one, other);
                     r.weather(2, 3);
-                    Checks.due(one + " and " + other + " on " + brook + " over " + n, r.duel(0, 0, 1, n), duelDue(brook, one, other, n));
+                    Checks.due(one + " and " + other + " on " + brook + " over " + n, r.duel(0, 0, 1, n),
+                        duelDue(brook, one, other, n));
                 }
             }
         }
@@ -356,7 +361,8 @@ final class EdgesOfMemory {
     }
 
     private static void ladders() {
-        Edge.of("Terms 5", "LADDER of STICKS (bits) on a BROOK: by the least sum of ALONE over n seeds from any y (the STICK's BEST), the least first, "
+        Edge.of("Terms 5", "LADDER of STICKS (bits) on a BROOK: by the least sum of ALONE over n seeds from any y (the "
+            + "STICK's BEST), the least first, "
             + "of several the lowest STICK; those that CAN lie nowhere are left out.");
         String brook = "4@4434;44@444;o44444;4@@434";
         String[] sticks = {"h7", "l5", "l1", "l2", "f9", "h9", "l3", "h8,l1", "h0", "l4"};
@@ -378,7 +384,8 @@ final class EdgesOfMemory {
                 r.weather(2, 2);
                 Checks.due("ladder(0, " + bits + ", " + n + ", NONE)", r.ladder(0, bits, n, NONE), due.size());
                 for (int i = 0; i <= due.size(); i++) {
-                    Checks.due("ladder(0, " + bits + ", " + n + ", " + i + ")", r.ladder(0, bits, n, i), i < due.size() ? due.get(i) : NONE);
+                    Checks.due("ladder(0, " + bits + ", " + n + ", " + i + ")", r.ladder(0, bits, n, i),
+                        i < due.size() ? due.get(i) : NONE);
                 }
             }
         }
@@ -729,7 +736,8 @@ final class EdgesOfMemory {
     }
 
     private static void count() {
-        Edge.of("Promise 44", "0 BROOKS, 1 STICKS, 2 RUNNERS, 3 SIGHTS, 4 bytes of the TAPE, 5 TICKS of the RACE (NONE: none started), 6 WIND, 7 HIGH, 8 HOLD.");
+        Edge.of("Promise 44", "0 BROOKS, 1 STICKS, 2 RUNNERS, 3 SIGHTS, 4 bytes of the TAPE, 5 TICKS of the RACE (NONE: "
+            + "none started), 6 WIND, 7 HIGH, 8 HOLD.");
         StickRace r = new StickRace();
         int[] none = {0, 0, 0, 0, 0, NONE, 0, 0, 5};
         for (int what = 0; what <= 8; what++) {

@@ -86,7 +86,8 @@ final class EdgesOfRaces {
                         boolean within = y + length <= 6;
                         boolean stone = x >= y && x < y + length;
                         int due = within && (high >= 2 || !stone) ? 1 : 0;
-                        Checks.due("HIGH " + high + ": can(0, l" + length + ", " + x + ", " + y + ")", r.can(0, length - 1, x, y), due);
+                        Checks.due("HIGH " + high + ": can(0, l" + length + ", " + x + ", " + y + ")",
+                            r.can(0, length - 1, x, y), due);
                     }
                 }
             }
@@ -94,7 +95,8 @@ final class EdgesOfRaces {
     }
 
     private static void runnersOnABrook() {
-        Edge.of("Terms 2", "RUNNERS (6 at most) on a BROOK: each a STICK at a y, at x 0; it CAN lie there, and no two are on one CELL.");
+        Edge.of("Terms 2", "RUNNERS (6 at most) on a BROOK: each a STICK at a y, at x 0; it CAN lie there, and no two are "
+            + "on one CELL.");
         StickRace six = Checks.onBrook(lanes(6, "4444"), "l1", "l2", "l3", "l5");
         for (int i = 0; i < 6; i++) {
             Checks.due("RUNNER " + i, six.runner(0, 5 - i), i);
@@ -130,7 +132,8 @@ final class EdgesOfRaces {
     }
 
     private static void pullByLength() {
-        Edge.of("Terms 2", "PULL of a RUNNER: of LENGTH 1, 2 the greatest PACE there of its CELLS, else the sum of these by LENGTH, cut;");
+        Edge.of("Terms 2", "PULL of a RUNNER: of LENGTH 1, 2 the greatest PACE there of its CELLS, else the sum of these "
+            + "by LENGTH, cut;");
         int[] paces = {2, 9, 1, 8, 3, 7};
         StickRace r = Checks.onBrook("2444;9444;1444;8444;3444;7444", BY_LENGTH);
         for (int length = 1; length <= 5; length++) {
@@ -176,7 +179,8 @@ final class EdgesOfRaces {
     }
 
     private static void order() {
-        Edge.of("Terms 2", "A TICK: the RUNNERS that are not OUT, the one with the greatest x at its beginning first (of several the lowest number):");
+        Edge.of("Terms 2", "A TICK: the RUNNERS that are not OUT, the one with the greatest x at its beginning first (of "
+            + "several the lowest number):");
         // RUNNER 1 is blown to LANE 0, one CELL ahead; as it goes first then, that CELL is free for RUNNER 0.
         StickRace ahead = Checks.onBrook("2444444;4444444", "l1", "f9");
         ahead.weather(0, -1);
@@ -233,7 +237,8 @@ final class EdgesOfRaces {
     }
 
     private static void eddies() {
-        Edge.of("Terms 2", "(1) If a CELL it lies on is an EDDY, a draw of 10: if that is below HOLD, its REST becomes 0, and its TICK is over.");
+        Edge.of("Terms 2", "(1) If a CELL it lies on is an EDDY, a draw of 10: if that is below HOLD, its REST becomes 0, "
+            + "and its TICK is over.");
         for (int seed = 0; seed < 12; seed++) {
             int first = draw(seed, 1);
             for (int hold = 0; hold <= 10; hold++) {
@@ -353,7 +358,8 @@ final class EdgesOfRaces {
         for (int length = 1; length <= 5; length++) {
             // RUNNER 1 is blown one LANE up, one CELL ahead: to the last LANE of RUNNER 0, or beside it.
             for (int from = length; from <= length + 1 && from < 6; from++) {
-                StickRace r = Checks.onBrook(lanes(length, "1111") + ";" + lanes(6 - length, "4111"), BY_LENGTH[length - 1], "f9");
+                StickRace r = Checks.onBrook(lanes(length, "1111") + ";" + lanes(6 - length, "4111"),
+                    BY_LENGTH[length - 1], "f9");
                 r.weather(0, -1);
                 r.runner(0, 0);
                 r.runner(1, from);
@@ -382,7 +388,8 @@ final class EdgesOfRaces {
     }
 
     private static void steps() {
-        Edge.of("Terms 2", "(3) As long as REST is 4 or more: REST is less by 4, and it goes on by one: if that is the END it is OUT, in that TICK;");
+        Edge.of("Terms 2", "(3) As long as REST is 4 or more: REST is less by 4, and it goes on by one: if that is the "
+            + "END it is OUT, in that TICK;");
         for (int high = 0; high <= 3; high++) {
             for (int sign = 1; sign <= 9; sign++) {
                 StickRace r = Checks.onBrook(lanes(2, ("" + sign).repeat(5)), "l1");
@@ -479,7 +486,8 @@ final class EdgesOfRaces {
     }
 
     private static void strikes() {
-        Edge.of("Terms 2", "else it STRIKES: of its LANES the lowest whose CELL there is a STONE that bars it or has a RUNNER is s: "
+        Edge.of("Terms 2", "else it STRIKES: of its LANES the lowest whose CELL there is a STONE that bars it or has a "
+            + "RUNNER is s: "
             + "with 2 times (s less y) below its LENGTH it goes aside to y and 1 more, else to 1 less,");
         for (int length = 1; length <= 5; length++) {
             for (int y = 0; y + length <= 6; y++) {
@@ -507,7 +515,8 @@ final class EdgesOfRaces {
     }
 
     private static void strikesAside() {
-        Edge.of("Terms 2", "at its x, if it CAN lie there and no RUNNER is there; in any case its REST is 0 and its TICK is over.");
+        Edge.of("Terms 2", "at its x, if it CAN lie there and no RUNNER is there; in any case its REST is 0 and its TICK "
+            + "is over.");
         // A STONE aside; with HIGH 2 that STONE is none, but a RUNNER ahead still bars.
         StickRace stone = Checks.onBrook("9o99;o999", "l1");
         stone.runner(0, 0);
@@ -593,7 +602,8 @@ final class EdgesOfRaces {
                     r.start(0L);
                     r.tick(1);
                     int to = y + wind;
-                    Checks.due("LENGTH " + length + " at " + y + ", WIND " + wind, r.look(0, 1), to >= 0 && to + length <= 6 ? to : y);
+                    Checks.due("LENGTH " + length + " at " + y + ", WIND " + wind, r.look(0, 1),
+                        to >= 0 && to + length <= 6 ? to : y);
                 }
             }
         }
@@ -673,7 +683,8 @@ final class EdgesOfRaces {
     }
 
     private static void places() {
-        Edge.of("Terms 2", "PLACES: 0 for the one that was OUT first, and so on (of one TICK in the order in which they went OUT); "
+        Edge.of("Terms 2", "PLACES: 0 for the one that was OUT first, and so on (of one TICK in the order in which they "
+            + "went OUT); "
             + "those that are not OUT: how many RUNNERS there are.");
         // LANES 1 and 3 are OUT in TICK 4 (RUNNER 1 ahead of 2), LANE 0 in TICK 8, LANE 2 never.
         StickRace r = Checks.onBrook("2222;4444;444o;4444;o444", "l1", "l1,f0");
@@ -759,7 +770,8 @@ final class EdgesOfRaces {
     }
 
     private static void runnerRefused() {
-        Edge.of("Promise 12", "NONE: no BROOK told, it CAN not lie there, another one is there, no such ones, there are six, a RACE was started.");
+        Edge.of("Promise 12", "NONE: no BROOK told, it CAN not lie there, another one is there, no such ones, there are "
+            + "six, a RACE was started.");
         StickRace r = new StickRace();
         Checks.brook(r, "4444;o444;4444");
         Checks.stick(r, "l1");
@@ -873,7 +885,8 @@ final class EdgesOfRaces {
     }
 
     private static void look() {
-        Edge.of("Promise 15", "Of a RUNNER: 0 x (CELLS, if OUT), 1 y, 2 REST, 3 the TICK in which it went OUT (NONE), 4 its PLACE, "
+        Edge.of("Promise 15", "Of a RUNNER: 0 x (CELLS, if OUT), 1 y, 2 REST, 3 the TICK in which it went OUT (NONE), 4 "
+            + "its PLACE, "
             + "5 how often it was held, 6 how often it STRUCK.");
         // RUNNER 0 strikes at x 0 in TICK 1, to LANE 1; there an EDDY at x 1 holds it. RUNNER 1 has PACE 3.
         StickRace r = Checks.onBrook("4o444;4@444;33333", "l1");

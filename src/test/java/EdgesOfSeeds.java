@@ -84,7 +84,8 @@ final class EdgesOfSeeds {
     }
 
     private static void aloneOnABrook() {
-        Edge.of("Terms 3", "ALONE: TICKS of a STICK from a y on a BROOK, alone: the TICK in which it is OUT, 99 if it is not by 60.");
+        Edge.of("Terms 3", "ALONE: TICKS of a STICK from a y on a BROOK, alone: the TICK in which it is OUT, 99 if it is "
+            + "not by 60.");
         StickRace r = new StickRace();
         Checks.brook(r, "111111111111111;111111111111111");
         Checks.brook(r, "1111111111111111;1111111111111112");
@@ -159,7 +160,8 @@ final class EdgesOfSeeds {
     }
 
     private static void bestOfSticks() {
-        Edge.of("Terms 3", "BEST of STICKS (bits) on a BROOK: the STICK and y with the least sum of ALONE over n seeds (of several the lowest STICK, then y).");
+        Edge.of("Terms 3", "BEST of STICKS (bits) on a BROOK: the STICK and y with the least sum of ALONE over n seeds "
+            + "(of several the lowest STICK, then y).");
         String brook = "4@4434;44@444;o44444;44@434";
         String[] sticks = {"h7", "l5", "l1", "l2", "f9"};
         for (int n : new int[] {1, 2, 7, 40}) {
@@ -215,7 +217,8 @@ final class EdgesOfSeeds {
     }
 
     private static void choiceOfTwo() {
-        Edge.of("Terms 3", "CHOICE of two players with a STICK each: the first (RUNNER 0) takes a y, then the second (1) one where both can be: "
+        Edge.of("Terms 3", "CHOICE of two players with a STICK each: the first (RUNNER 0) takes a y, then the second (1) "
+            + "one where both can be: "
             + "that by which its WINS less the first's are most (of several the lowest); "
             + "the first takes the y (to which the second has one) by which its WINS less the second's are most then (likewise); "
             + "the GAME is worth that difference.");
@@ -230,7 +233,8 @@ final class EdgesOfSeeds {
                     StickRace r = Checks.onBrook(brooks[b], one, other);
                     r.weather(2, 3);
                     for (int what = 0; what < 3; what++) {
-                        Checks.due(one + " and " + other + " on " + brooks[b] + " over " + n + ": " + what, r.choice(0, 0, 1, n, what), due[what]);
+                        Checks.due(one + " and " + other + " on " + brooks[b] + " over " + n + ": " + what,
+                            r.choice(0, 0, 1, n, what), due[what]);
                     }
                 }
             }

@@ -411,7 +411,8 @@ final class EdgesOfTexts {
     }
 
     private static void feed() {
-        Edge.of("Promise 2", "Twenty bytes more come to the TAPE (of each number the highest first; bytes of 0 are left out): how many it has.");
+        Edge.of("Promise 2", "Twenty bytes more come to the TAPE (of each number the highest first; bytes of 0 are left "
+            + "out): how many it has.");
         Checks.due("none but 0", new StickRace().feed(0, 0, 0, 0, 0), 0);
         Checks.due("twenty", new StickRace().feed(-1, -1, -1, -1, -1), 20);
         Checks.due("the greatest ints", new StickRace().feed(MAX, MAX, MAX, MAX, MAX), 20);
@@ -575,7 +576,8 @@ final class EdgesOfTexts {
     private static void brook() {
         Edge.of("Promise 6", "Of a BROOK: 0 LANES, 1 CELLS, 2 STONES, 3 EDDIES.");
         StickRace r = new StickRace();
-        String[] texts = {"4444;4444", "oooo;oooo", FULL_BROOK.replace('4', '@'), "o@o@9;@o1oo;44444", FULL_BROOK.replace('4', 'o')};
+        String[] texts = {"4444;4444", "oooo;oooo", FULL_BROOK.replace('4', '@'), "o@o@9;@o1oo;44444",
+            FULL_BROOK.replace('4', 'o')};
         int[][] due = {{2, 4, 0, 0}, {2, 4, 8, 0}, {6, 16, 0, 96}, {3, 5, 5, 3}, {6, 16, 96, 0}};
         for (int b = 0; b < texts.length; b++) {
             Checks.brook(r, texts[b]);
@@ -659,7 +661,8 @@ final class EdgesOfTexts {
             Checks.due("weather(" + what + ", 0)", r.weather(what, 0), false);
             Checks.due("weather(" + what + ", 1)", r.weather(what, 1), false);
         }
-        int[][] bad = {{0, -4}, {0, 4}, {1, -1}, {1, 4}, {2, -1}, {2, 11}, {0, MIN}, {0, MAX}, {1, MIN}, {1, MAX}, {2, MIN}, {2, MAX}};
+        int[][] bad = {{0, -4}, {0, 4}, {1, -1}, {1, 4}, {2, -1}, {2, 11}, {0, MIN}, {0, MAX}, {1, MIN}, {1, MAX},
+            {2, MIN}, {2, MAX}};
         for (int[] b : bad) {
             Checks.due("weather(" + b[0] + ", " + b[1] + ")", r.weather(b[0], b[1]), false);
         }
@@ -674,7 +677,8 @@ final class EdgesOfTexts {
         Checks.brook(r, "444o;4444;o444");
         Checks.stick(r, "l1");
         Checks.stick(r, "l3");
-        int[][] due = {{0, 0, 0, 1}, {0, 3, 0, 0}, {0, 3, 2, 1}, {0, 0, 2, 0}, {1, 1, 0, 1}, {1, 2, 0, 1}, {1, 3, 0, 0}, {1, 0, 0, 0}, {1, 1, 1, 0}, {1, 1, 2, 0}};
+        int[][] due = {{0, 0, 0, 1}, {0, 3, 0, 0}, {0, 3, 2, 1}, {0, 0, 2, 0}, {1, 1, 0, 1}, {1, 2, 0, 1}, {1, 3, 0, 0},
+            {1, 0, 0, 0}, {1, 1, 1, 0}, {1, 1, 2, 0}};
         for (int[] d : due) {
             Checks.due("can(0, " + d[0] + ", " + d[1] + ", " + d[2] + ")", r.can(0, d[0], d[1], d[2]), d[3]);
         }
@@ -682,8 +686,9 @@ final class EdgesOfTexts {
         Checks.due("over STONES", r.can(0, 1, 3, 0), 1);
         Checks.due("out of the BROOK as before", r.can(0, 1, 1, 1), 0);
         Edge.of("Promise 10", "NONE: no such ones (x 0 .. CELLS less 1, y 0 .. LANES less 1).");
-        int[][] none = {{0, 0, 4, 0}, {0, 0, -1, 0}, {0, 0, 0, 3}, {0, 0, 0, -1}, {1, 0, 0, 0}, {-1, 0, 0, 0}, {0, 2, 0, 0}, {0, -1, 0, 0},
-            {0, 0, MIN, 0}, {0, 0, MAX, 0}, {0, 0, 0, MIN}, {0, 0, 0, MAX}, {MIN, 0, 0, 0}, {MAX, 0, 0, 0}, {0, MIN, 0, 0}, {0, MAX, 0, 0}};
+        int[][] none = {{0, 0, 4, 0}, {0, 0, -1, 0}, {0, 0, 0, 3}, {0, 0, 0, -1}, {1, 0, 0, 0}, {-1, 0, 0, 0},
+            {0, 2, 0, 0}, {0, -1, 0, 0}, {0, 0, MIN, 0}, {0, 0, MAX, 0}, {0, 0, 0, MIN}, {0, 0, 0, MAX}, {MIN, 0, 0, 0}, {MAX, 0, 0, 0},
+            {0, MIN, 0, 0}, {0, MAX, 0, 0}};
         for (int[] n : none) {
             Checks.due("can(" + n[0] + ", " + n[1] + ", " + n[2] + ", " + n[3] + ")", r.can(n[0], n[1], n[2], n[3]), NONE);
         }

@@ -97,7 +97,8 @@ final class EdgesOfTrials {
     // ---- Terms 4 ----
 
     private static void trialsOfSome() {
-        Edge.of("Terms 4", "TRIALS of some STICKS on some BROOKS (bits both): a STICK and a y at which it CAN lie on all of these, by STICKS, then y; "
+        Edge.of("Terms 4", "TRIALS of some STICKS on some BROOKS (bits both): a STICK and a y at which it CAN lie on all "
+            + "of these, by STICKS, then y; "
             + "12 at most (else nothing is told).");
         for (int high = 0; high <= 2; high += 2) {
             for (int brooks = 1; brooks < 64; brooks++) {
@@ -306,9 +307,11 @@ final class EdgesOfTrials {
     }
 
     private static void cellsStoned() {
-        Edge.of("Terms 4", "STONED: CELLS (16 times y and x) of a BROOK, no STONES, each of which alone being a STONE would make it AGREE.");
+        Edge.of("Terms 4", "STONED: CELLS (16 times y and x) of a BROOK, no STONES, each of which alone being a STONE "
+            + "would make it AGREE.");
         String[] brooks = {"4444;4444", "oooo;oooo", "4@34;4o44;22@2", "4444444444444444;4444444444444444"};
-        int[][][] sights = {{}, {{0, 0, 5}}, {{0, 0, 4}}, {{0, 0, 99}}, {{0, 1, 4}, {0, 0, 4}}, {{1, 0, 4}}, {{1, 0, 99}, {0, 0, 4}},
+        int[][][] sights = {{}, {{0, 0, 5}}, {{0, 0, 4}}, {{0, 0, 99}}, {{0, 1, 4}, {0, 0, 4}}, {{1, 0, 4}}, {{1, 0, 99},
+            {0, 0, 4}},
             {{0, 0, 17}}, {{0, 0, 16}, {0, 1, 17}}, {{1, 5, 3}}};
         for (int b = 0; b < brooks.length; b++) {
             for (int[][] seen : sights) {
@@ -373,13 +376,15 @@ final class EdgesOfTrials {
         for (int turns = 2; turns <= 6; turns++) {
             int[] due = worth.length < turns ? new int[] {NONE, NONE} : fairDue(worth, turns);
             for (int what = 0; what < 2; what++) {
-                Checks.due(brook + ", " + stick + ": fair(0, 0, " + turns + ", " + what + ")", r.fair(0, 0, turns, what), due[what]);
+                Checks.due(brook + ", " + stick + ": fair(0, 0, " + turns + ", " + what + ")", r.fair(0, 0, turns, what),
+                    due[what]);
             }
         }
     }
 
     private static void turns() {
-        Edge.of("Terms 4", "TURNS (2 .. 6) are taken by A (0) and B (1) in a row, as bits, the first the highest; as often by both, A once more if TURNS are odd.");
+        Edge.of("Terms 4", "TURNS (2 .. 6) are taken by A (0) and B (1) in a row, as bits, the first the highest; as "
+            + "often by both, A once more if TURNS are odd.");
         StickRace r = told(new String[] {"4444;4444;4444;4444;4444;4444"}, new String[] {"l1"});
         // All WORTH 56: of the rows the lowest, and what A has more with odd TURNS.
         int[][] due = {{1, 0}, {1, 56}, {3, 0}, {3, 56}, {7, 0}};
@@ -397,7 +402,8 @@ final class EdgesOfTrials {
     }
 
     private static void worth() {
-        Edge.of("Terms 4", "WORTH of the k-th TURN: 60 less ALONE (seed 0) of a STICK from its k-th best y on a BROOK (of all y at which it CAN lie).");
+        Edge.of("Terms 4", "WORTH of the k-th TURN: 60 less ALONE (seed 0) of a STICK from its k-th best y on a BROOK (of "
+            + "all y at which it CAN lie).");
         fairs("1111;9999;o999;4444;444o;2222", "l1");
         fairs("444o;444o;444o;9999;o44o;444o", "l1");
         fairs("1111;9999;o999;4444;4444;2222", "l2");
@@ -411,7 +417,8 @@ final class EdgesOfTrials {
     }
 
     private static void fairestRows() {
-        Edge.of("Terms 4", "FAIR: the row by which what A has differs least from what B has (of several the lowest); and by how much.");
+        Edge.of("Terms 4", "FAIR: the row by which what A has differs least from what B has (of several the lowest); and "
+            + "by how much.");
         String[] lanes = {"1111", "2222", "3333", "4444", "9999", "9449", "1449", "444o"};
         for (int i = 0; i < 40; i++) {
             StringBuilder brook = new StringBuilder();
@@ -450,7 +457,8 @@ final class EdgesOfTrials {
     }
 
     private static void images() {
-        Edge.of("Terms 4", "An IMAGE keeps the RACE as it stands (its BROOK, RUNNERS, draws, TICKS, what part 5 tells of it; not WIND, HIGH, HOLD); "
+        Edge.of("Terms 4", "An IMAGE keeps the RACE as it stands (its BROOK, RUNNERS, draws, TICKS, what part 5 tells of "
+            + "it; not WIND, HIGH, HOLD); "
             + "BACK: it stands so again.");
         for (int at = 0; at <= 40; at += 4) {
             StickRace untouched = raceOfThree();

@@ -17,20 +17,20 @@ public final class MemoryTest {
         Checks.finish("MemoryTest");
     }
 
-    /** All that a RACE tells, in one text. */
+    /** What a RACE of three RUNNERS at most tells, in one text; it takes some 100 calls. */
     private static String told(StickRace r) {
         StringBuilder all = new StringBuilder(Checks.state(r));
-        for (int t = 0; t <= 61; t++) {
+        for (int t = 0; t <= 6; t++) {
             all.append(" leader ").append(r.leader(t));
-            for (int i = 0; i < 6; i++) {
+            for (int i = 0; i < 3; i++) {
                 all.append(' ').append(r.was(i, t, 0)).append('/').append(r.was(i, t, 1));
             }
         }
-        for (int x = -1; x <= 16; x++) {
+        for (int x = 0; x <= 3; x++) {
             all.append(" struck ").append(r.struck(x)).append(" lies ").append(r.lies(x, 0)).append(r.lies(x, 1));
-            for (int i = -1; i < 6; i++) {
-                all.append(' ').append(r.passed(i, x)).append(r.led(i));
-            }
+        }
+        for (int i = 0; i < 3; i++) {
+            all.append(' ').append(r.passed(i, 1)).append('/').append(r.passed(i, 3)).append('/').append(r.led(i));
         }
         return all.toString();
     }
@@ -39,8 +39,8 @@ public final class MemoryTest {
         Checks.due(what + " (1: as it was)", told(r).equals(before), true);
     }
 
-    /** Promises 32 and 33. */
-    private static void image() {
+    /** A RACE that has gone two TICKS, with an IMAGE of it then. */
+    private static StickRace imageOfTwo() {
         StickRace r = Checks.onBrook("44o4;44@4;3333", "l1");
         Checks.due("no RACE", r.image(), NONE);
         Checks.due("no IMAGE", r.back(), NONE);
@@ -55,15 +55,29 @@ public final class MemoryTest {
         Checks.due("back to the START", r.back(), 0);
         Checks.due("TICKS", r.count(5), 0);
         r.tick(2);
-        String two = told(r);
         Checks.due("another IMAGE instead", r.image(), 2);
-        alike("image() itself", r, two);
-        r.tick(3);
-        String five = told(r);
-        Checks.due("back to two", r.back(), 2);
-        alike("back", r, two);
-        r.tick(3);
-        alike("as it went the first time", r, five);
+        return r;
+    }
+
+    /** Promises 32 and 33. */
+    private static void image() {
+        StickRace once = Checks.onBrook("44o4;44@4;3333", "l1");
+        for (int y = 0; y < 3; y++) {
+            once.runner(0, y);
+        }
+        once.start(3L);
+        once.tick(2);
+        String two = told(once);
+        alike("image() itself", imageOfTwo(), two);
+        once.tick(3);
+        String five = told(once);
+        StickRace again = imageOfTwo();
+        again.tick(3);
+        Checks.due("back to two", again.back(), 2);
+        alike("back", again, two);
+        again.tick(3);
+        alike("as it went the first time", again, five);
+        StickRace r = imageOfTwo();
         r.weather(0, 2);
         r.weather(1, 1);
         r.weather(2, 9);

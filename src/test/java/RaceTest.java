@@ -418,11 +418,11 @@ public final class RaceTest {
     }
 
     private static void draws() {
-        StickRace r = Checks.onBrook("@444;@444", "l1");
-        r.runner(0, 0);
-        r.runner(0, 1);
         long[] seeds = {0, 1, 2, 3, 4, 5, 6, 7, -1, 12345678901L, Long.MIN_VALUE, Long.MAX_VALUE};
         for (long seed : seeds) {
+            StickRace r = Checks.onBrook("@444;@444", "l1");
+            r.runner(0, 0);
+            r.runner(0, 1);
             for (int hold = 0; hold <= 10; hold++) {
                 r.weather(2, hold);
                 r.start(seed);

@@ -74,7 +74,8 @@ final class Refusals {
     /** As many BROOKS, STICKS, RUNNERS, SIGHTS, bytes and TRIALS as there can be; an IMAGE; a RACE that goes on. */
     private static StickRace full() {
         StickRace r = new StickRace();
-        String[] brooks = {"4444;4444", "44o4;4444", "4@44;3333", "1111;2222", "4444;4@44", "44@44;4o444;33333;4444@;22@22;44444"};
+        String[] brooks = {"4444;4444", "44o4;4444", "4@44;3333", "1111;2222", "4444;4@44",
+            "44@44;4o444;33333;4444@;22@22;44444"};
         for (String b : brooks) {
             Checks.brook(r, b);
         }
@@ -509,11 +510,13 @@ final class Refusals {
         refused("told", "back");
         askedOfNoRace("told");
         // Taken by another one, on a STONE, over a STONE, out of the BROOK, no such ones.
-        long[][] runners = {{0, 0}, {0, 2}, {0, 1}, {1, 0}, {1, 2}, {0, 3}, {0, -1}, {3, 0}, {-1, 0}, {MIN, 0}, {MAX, 0}, {0, MIN}, {0, MAX}};
+        long[][] runners = {{0, 0}, {0, 2}, {0, 1}, {1, 0}, {1, 2}, {0, 3}, {0, -1}, {3, 0}, {-1, 0}, {MIN, 0}, {MAX, 0},
+            {0, MIN}, {0, MAX}};
         for (long[] r : runners) {
             refused("told", "runner", r);
         }
-        long[][] sights = {{0, 0, 0}, {0, 0, 100}, {0, -1, 4}, {0, 6, 4}, {3, 0, 4}, {-1, 0, 4}, {0, 0, MIN}, {0, MAX, 4}, {MIN, 0, 4}};
+        long[][] sights = {{0, 0, 0}, {0, 0, 100}, {0, -1, 4}, {0, 6, 4}, {3, 0, 4}, {-1, 0, 4}, {0, 0, MIN}, {0, MAX, 4},
+            {MIN, 0, 4}};
         for (long[] s : sights) {
             refused("told", "sight", s);
         }

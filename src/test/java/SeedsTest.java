@@ -63,14 +63,14 @@ public final class SeedsTest {
 
     /** The RUNNERS as told count, not as they lie; and the RACE at hand stays as it was. */
     private static void oddsAsRun() {
-        StickRace r = Checks.onBrook("4@443@4;44@4434;4444o44;333@444", "l1", "l2,h7", "f9");
-        r.weather(0, 1);
-        r.runner(2, 0);
-        r.runner(1, 2);
-        r.runner(0, 1);
         int[] wins = new int[3];
         int[] sums = new int[3];
         for (int n = 1; n <= 40; n++) {
+            StickRace r = Checks.onBrook("4@443@4;44@4434;4444o44;333@444", "l1", "l2,h7", "f9");
+            r.weather(0, 1);
+            r.runner(2, 0);
+            r.runner(1, 2);
+            r.runner(0, 1);
             r.start(n - 1);
             r.tick(60);
             for (int i = 0; i < 3; i++) {
@@ -154,8 +154,8 @@ public final class SeedsTest {
     }
 
     private static void luckOfAll() {
-        StickRace r = eddyAgainstSlow();
         for (int n = 1; n <= 40; n += 13) {
+            StickRace r = eddyAgainstSlow();
             long wins = r.odds(0, n, 0);
             long[] parts = new long[22];
             parts[0] = 1000000;

@@ -157,15 +157,16 @@ public final class TurnsTest {
                 Checks.due("reach over " + d[0] + ", " + what, r.reach(0, 0, 0, d[0], what), d[1 + what]);
             }
         }
+        int[] all = new int[40];
+        for (int seed = 0; seed < 40; seed++) {
+            all[seed] = r.alone(0, 0, 0, seed);
+        }
         for (int n = 1; n <= 40; n++) {
-            int[] all = new int[n];
-            for (int seed = 0; seed < n; seed++) {
-                all[seed] = r.alone(0, 0, 0, seed);
-            }
-            Arrays.sort(all);
-            Checks.due("least over " + n, r.reach(0, 0, 0, n, 0), all[0]);
-            Checks.due("most over " + n, r.reach(0, 0, 0, n, 1), all[n - 1]);
-            Checks.due("MIDDLE over " + n, r.reach(0, 0, 0, n, 2), all[(n - 1) / 2]);
+            int[] sorted = Arrays.copyOf(all, n);
+            Arrays.sort(sorted);
+            Checks.due("least over " + n, r.reach(0, 0, 0, n, 0), sorted[0]);
+            Checks.due("most over " + n, r.reach(0, 0, 0, n, 1), sorted[n - 1]);
+            Checks.due("MIDDLE over " + n, r.reach(0, 0, 0, n, 2), sorted[(n - 1) / 2]);
         }
         Checks.due("no EDDY", r.reach(0, 0, 1, 40, 1), 8);
         Checks.due("on a STONE", r.reach(0, 0, 2, 1, 0), NONE);
