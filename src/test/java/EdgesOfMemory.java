@@ -479,6 +479,16 @@ final class EdgesOfMemory {
         return r;
     }
 
+    /** A whole RACE of RUNNER 0 alone, behind one that had a RUNNER 1 too. */
+    private static StickRace oneIsGone() {
+        StickRace r = ended();
+        r.on(0);
+        r.runner(0, 1);
+        r.start(0L);
+        r.tick(60);
+        return r;
+    }
+
     private static void was() {
         Edge.of("Promise 34", "WAS: x (what 0), y (1).");
         StickRace r = ended();
@@ -498,6 +508,8 @@ final class EdgesOfMemory {
         for (int bad : new int[] {-1, 2, MIN, MAX}) {
             Checks.due("what " + bad, r.was(0, 0, bad), NONE);
         }
+        Checks.due("a RUNNER that is gone: x", oneIsGone().was(1, 3, 0), NONE);
+        Checks.due("a RUNNER that is gone: y", oneIsGone().was(1, 3, 1), NONE);
         Checks.due("none was started", notStarted().was(0, 0, 0), NONE);
         Checks.due("of a new object", new StickRace().was(0, 0, 0), NONE);
         r.start(0L);
@@ -524,6 +536,7 @@ final class EdgesOfMemory {
         for (int bad : new int[] {-1, 2, 6, MIN, MAX}) {
             Checks.due("RUNNER " + bad, r.passed(bad, 1), NONE);
         }
+        Checks.due("a RUNNER that is gone", oneIsGone().passed(1, 1), NONE);
         Checks.due("none was started", notStarted().passed(0, 1), NONE);
         Checks.due("of a new object", new StickRace().passed(0, 1), NONE);
         r.start(0L);
@@ -570,6 +583,7 @@ final class EdgesOfMemory {
         for (int bad : new int[] {-2, 2, 5, 6, MIN, MAX}) {
             Checks.due("RUNNER " + bad, r.led(bad), NONE);
         }
+        Checks.due("a RUNNER that is gone", oneIsGone().led(1), NONE);
         Checks.due("none was started", notStarted().led(0), NONE);
         Checks.due("none was started: CHANGES", notStarted().led(NONE), NONE);
         Checks.due("of a new object", new StickRace().led(NONE), NONE);

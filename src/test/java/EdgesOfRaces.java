@@ -825,6 +825,16 @@ final class EdgesOfRaces {
             Checks.due("it struck", r.look(0, 6), 1);
         }
         Checks.due("as often as one likes", r.start(0L), true);
+        StickRace held = Checks.onBrook("@444;4444", "l1");
+        held.weather(2, 10);
+        held.runner(0, 0);
+        for (int n = 1; n <= 3; n++) {
+            held.start(n);
+            held.tick(n);
+            looks("held in each TICK", held, 0, 0, 0, 0, NONE, 1, n, 0);
+        }
+        held.start(0L);
+        looks("anew, not held yet", held, 0, 0, 0, 0, NONE, 1, 0, 0);
     }
 
     private static void startRefused() {

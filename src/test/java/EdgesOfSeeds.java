@@ -279,6 +279,22 @@ final class EdgesOfSeeds {
                 Checks.due("RUNNER 1 upon a STONE: same(" + a + ", " + b + ", 40)", low().same(a, b, 40) == NONE, a < 2 || b < 2);
             }
         }
+        // RUNNER 1 is first in any water; RUNNER 0 strikes a STONE for ever with HIGH 0 and 1: PLACES 2 and 0, or 1 and 0.
+        StickRace barred = Checks.onBrook("4444;4o44", "l1");
+        barred.runner(0, 1);
+        barred.runner(0, 0);
+        Checks.due("the PLACE of RUNNER 0 alone is another: same(0, 2, 40)", barred.same(0, 2, 40), 0);
+        Checks.due("the PLACE of RUNNER 0 alone is another: same(1, 3, 40)", barred.same(1, 3, 40), 0);
+        Checks.due("same(0, 1, 40)", barred.same(0, 1, 40), 40);
+        Checks.due("same(2, 3, 40)", barred.same(2, 3, 40), 40);
+        // RUNNERS 1 and 3 have no PULL with HIGH 0 and 1; 0 is OUT ahead of 2 in TICK 8 of 9, or behind it in TICK 6 of 5.
+        StickRace four = Checks.onBrook("2222;1111;1199;1111", "l1", "h9");
+        for (int y = 0; y < 4; y++) {
+            four.runner(y % 2, y);
+        }
+        Checks.due("the first two change PLACES: same(0, 1, 40)", four.same(0, 1, 40), 0);
+        Checks.due("PLACES with HIGH 0 (1: as due)", placesAt(four, 0, 0).equals("0 4 1 4 "), true);
+        Checks.due("PLACES with HIGH 1 (1: as due)", placesAt(four, 1, 0).equals("1 4 0 4 "), true);
     }
 
     /** ALONE with seed 0 of every STICK that can be told, by LENGTH, HEAVY, FEATHER. */

@@ -305,6 +305,14 @@ final class EdgesOfTexts {
         fault(1, "l1,h2,f", 7);
         fault(1, "l1,h2,f ", 8);
         fault(1, "l1,h2,x3", 6);
+        // Neither a letter nor another sign is a number, whatever digit stands behind it.
+        for (int b = 1; b <= 255; b++) {
+            if ((b < '0' || b > '9') && b != ' ') {
+                fault(1, "l" + (char) b, 1);
+                fault(1, "h" + (char) b + "5", 1);
+                fault(1, "f  " + (char) b + "05", 3);
+            }
+        }
     }
 
     private static void thirdDigits() {
@@ -419,6 +427,10 @@ final class EdgesOfTexts {
         Checks.due("the least ints have one byte each", new StickRace().feed(MIN, MIN, MIN, MIN, MIN), 5);
         Checks.due("1 in each", new StickRace().feed(1, 1, 1, 1, 1), 5);
         Checks.due("0 within", new StickRace().feed(0x01000001, 0x00010100, 0, 0x00FF0000, 0x01010001), 8);
+        for (int b = 0; b <= 255; b++) {
+            int got = new StickRace().feed(b << 24, b << 16, b << 8, b, b * 0x01010101);
+            Checks.due("byte " + b + " at each place of a number, and at all of one", got, b == 0 ? 0 : 8);
+        }
         // l, 1, the blank, the comma, h and 2, each from another byte of another number.
         StickRace r = new StickRace();
         Checks.due("spread", r.feed(0x006C0000, 0x31002000, 0x0000002C, 0x68000000, 0x00003200), 6);
@@ -595,7 +607,10 @@ final class EdgesOfTexts {
             Checks.throwsNoSuchElement(r, b, 3);
         }
         Checks.brook(r, "4444;4444");
-        Checks.due("the sixth", r.brook(5, 1), 4);
+        int[] sixth = {2, 4, 0, 0};
+        for (int what = 0; what < 4; what++) {
+            Checks.due("the sixth, behind one of STONES alone: " + what, r.brook(5, what), sixth[what]);
+        }
         Checks.throwsNoSuchElement(r, 6, 0);
         Checks.throwsNoSuchElement(new StickRace(), 0, 0);
     }

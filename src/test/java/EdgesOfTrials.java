@@ -474,7 +474,7 @@ final class EdgesOfTrials {
             r.tick(7);
             if (at % 8 == 0) {
                 r.on(1);
-                r.runner(0, 1);
+                r.runner(1, 1);
                 r.start(1L);
                 r.tick(2);
             }
