@@ -189,6 +189,18 @@ final class EdgesOfMemory {
         Checks.due("no CHANGE", first.led(NONE), 0);
         Checks.due("LED behind TICK 1", first.led(1), 1);
         Checks.due("not at the START", first.led(0), 0);
+        // RUNNER 0 strikes at x 14 from TICK 15 on; RUNNER 1 is at x 14 in TICK 56, at x 15 in TICK 60.
+        StickRace last = Checks.onBrook("1111111111111111;444444444444444o", "l1");
+        last.runner(0, 1);
+        last.runner(0, 0);
+        last.start(0L);
+        last.tick(59);
+        Checks.due("behind TICK 59: no CHANGE", last.led(NONE), 0);
+        Checks.due("behind TICK 59: LED by RUNNER 0", last.led(0), 59);
+        last.tick(1);
+        Checks.due("a CHANGE behind TICK 60", last.led(NONE), 1);
+        Checks.due("LED by RUNNER 1 behind TICK 60", last.led(1), 1);
+        Checks.due("LED by RUNNER 0 as before", last.led(0), 59);
     }
 
     private static void strikesByX() {

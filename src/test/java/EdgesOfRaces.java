@@ -351,6 +351,29 @@ final class EdgesOfRaces {
         behind.start(0L);
         behind.tick(2);
         looks("no WAVE of one that is behind", behind, 1, 1, 0, 1);
+        for (int ahead = 0; ahead <= 5; ahead++) {
+            waveOfRunner(ahead);
+        }
+    }
+
+    /** Six RUNNERS; the one on LANE 5 goes on by one and is blown to LANE 4 in TICK 1, to LANE 3 in TICK 2. */
+    private static void waveOfRunner(int ahead) {
+        StickRace r = Checks.onBrook(lanes(5, "1111") + ";4444", "l1", "f9");
+        r.weather(0, -1);
+        for (int i = 0, y = 0; i <= 5; i++) {
+            r.runner(i == ahead ? 1 : 0, i == ahead ? 5 : y);
+            y += i == ahead ? 0 : 1;
+        }
+        r.start(0L);
+        r.tick(1);
+        int onLane3 = ahead <= 3 ? 4 : 3;
+        int onLane4 = ahead <= 4 ? 5 : 4;
+        looks("ahead as RUNNER " + ahead, r, ahead, 1, 4, 0);
+        looks("a WAVE of RUNNER " + ahead + " for those behind it in the row", r, onLane4, 0, 4, ahead <= 4 ? 2 : 1);
+        looks("no WAVE on LANE 3 yet", r, onLane3, 0, 3, 1);
+        r.tick(1);
+        looks("a WAVE of RUNNER " + ahead + " on LANE 3", r, onLane3, 0, 3, 3);
+        looks("no WAVE on LANE 4 any more", r, onLane4, 0, 4, ahead <= 4 ? 3 : 2);
     }
 
     private static void waveOfLanes() {
@@ -752,12 +775,50 @@ final class EdgesOfRaces {
         Checks.due("no RUNNERS", r.look(0, 0), HIDDEN);
         Checks.due("it has two LANES", r.runner(0, 2), NONE);
         Checks.due("it is as many as there are then", r.runner(0, 0), 0);
+        for (int ticks = 0; ticks <= 8; ticks++) {
+            allAreGone(ticks);
+        }
         Edge.of("Promise 11", "False: no such BROOK.");
         for (int b : new int[] {-1, 6, 7, MIN, MAX}) {
             Checks.due("on(" + b + ")", r.on(b), false);
             Checks.due("the RUNNER is there still", r.lies(0, 0), 0);
         }
         Checks.due("of a new object", new StickRace().on(0), false);
+    }
+
+    /** Two RUNNERS behind a RACE of six that ran so many TICKS: what was before tells nothing of them. */
+    private static void allAreGone(int ticks) {
+        StickRace r = Checks.onBrook("2222;2222;9@99;4444;4o44;4444", "l1", "l2,f9");
+        for (int i = 0; i < 6; i++) {
+            r.runner(0, i == 0 ? 2 : i < 3 ? i - 1 : i);
+        }
+        r.start(4L);
+        r.tick(ticks);
+        r.odds(0, 9, 0);
+        r.on(0);
+        StickRace fresh = Checks.onBrook("2222;2222;9@99;4444;4o44;4444", "l1", "l2,f9");
+        for (StickRace each : new StickRace[] {r, fresh}) {
+            each.runner(1, 0);
+            each.runner(0, 5);
+            each.start(5L);
+        }
+        for (int t = 0; t <= 8; t++) {
+            for (int i = 0; i < 2; i++) {
+                for (int what = 0; what <= 6; what++) {
+                    Checks.due("behind " + t + ", look(" + i + ", " + what + ")", r.look(i, what), fresh.look(i, what));
+                }
+                Checks.due("behind " + t + ", pull(" + i + ")", r.pull(i), fresh.pull(i));
+            }
+            Checks.due("behind " + t + ", leader(" + t + ")", r.leader(t), fresh.leader(t));
+            r.tick(1);
+            fresh.tick(1);
+        }
+        Checks.due("none of the six", r.look(2, 0), HIDDEN);
+        for (int n : new int[] {1, 2, 40}) {
+            Checks.due("close(" + n + ")", r.close(n), fresh.close(n));
+            Checks.due("odds of the first over " + n, r.odds(0, n, 1), fresh.odds(0, n, 1));
+            Checks.due("rounds of the second over " + n, r.rounds(1, n, 0), fresh.rounds(1, n, 0));
+        }
     }
 
     private static void runner() {

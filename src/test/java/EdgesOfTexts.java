@@ -469,6 +469,13 @@ final class EdgesOfTexts {
             Checks.due("160 still", full.count(4), 160);
         }
         Checks.due("all of them blanks still", full.fault(0), 160);
+        for (int shift = 0; shift < 32; shift += 8) {
+            StickRace each = blankTape(160);
+            for (int b = 1; b <= 255; b++) {
+                Checks.due("160 and byte " + b + " by " + shift, each.feed(0, 0, b << shift, 0, 0), NONE);
+            }
+            Checks.due("160 still", each.count(4), 160);
+        }
         StickRace part = blankTape(158);
         Checks.due("158 and 3", part.feed('l', '1', ' ', 0, 0), NONE);
         Checks.due("nothing of it came", part.count(4), 158);
@@ -702,7 +709,8 @@ final class EdgesOfTexts {
         Checks.due("out of the BROOK as before", r.can(0, 1, 1, 1), 0);
         Edge.of("Promise 10", "NONE: no such ones (x 0 .. CELLS less 1, y 0 .. LANES less 1).");
         int[][] none = {{0, 0, 4, 0}, {0, 0, -1, 0}, {0, 0, 0, 3}, {0, 0, 0, -1}, {1, 0, 0, 0}, {-1, 0, 0, 0},
-            {0, 2, 0, 0}, {0, -1, 0, 0}, {0, 0, MIN, 0}, {0, 0, MAX, 0}, {0, 0, 0, MIN}, {0, 0, 0, MAX}, {MIN, 0, 0, 0}, {MAX, 0, 0, 0},
+            {0, 2, 0, 0}, {0, -1, 0, 0}, {0, 0, MIN, 0}, {0, 0, MAX, 0}, {0, 0, 0, MIN}, {0, 0, 0, MAX},
+            {MIN, 0, 0, 0}, {MAX, 0, 0, 0},
             {0, MIN, 0, 0}, {0, MAX, 0, 0}};
         for (int[] n : none) {
             Checks.due("can(" + n[0] + ", " + n[1] + ", " + n[2] + ", " + n[3] + ")", r.can(n[0], n[1], n[2], n[3]), NONE);

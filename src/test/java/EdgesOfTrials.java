@@ -447,7 +447,7 @@ final class EdgesOfTrials {
 
     private static StickRace raceOfThree() {
         StickRace r = Checks.onBrook("4@4o34;44@444;o44444;3333@4", "l1", "h7", "f9");
-        Checks.brook(r, "44444;22222");
+        Checks.brook(r, "44444;22222;99999");
         r.weather(0, -1);
         r.runner(0, 0);
         r.runner(1, 1);
@@ -473,10 +473,13 @@ final class EdgesOfTrials {
             r.start(12L);
             r.tick(7);
             if (at % 8 == 0) {
+                // Another RACE in which all are elsewhere in each TICK, and the last RUNNER leads.
                 r.on(1);
                 r.runner(1, 1);
+                r.runner(2, 0);
+                r.runner(0, 2);
                 r.start(1L);
-                r.tick(2);
+                r.tick(60);
             }
             r.weather(0, 2);
             r.weather(1, 3);
