@@ -252,12 +252,11 @@ final class EdgesOfSeeds {
         return places.toString();
     }
 
-    private static void sameAtHighWater() {
-        Edge.of("Terms 3", "SAME: in how many of n seeds all PLACES are alike with HIGH a and with HIGH b "
-            + "(a RUNNER that CAN not lie at its start with one of these: none).");
+    private static void sameInWind(int wind) {
         String[][] placesBy = new String[4][40];
         for (int high = 0; high <= 3; high++) {
             StickRace r = river();
+            r.weather(0, wind);
             for (int seed = 0; seed < 40; seed++) {
                 placesBy[high][seed] = placesAt(r, high, seed);
             }
@@ -266,13 +265,22 @@ final class EdgesOfSeeds {
             for (int b = 0; b <= 3; b++) {
                 int alike = 0;
                 StickRace r = river();
+                r.weather(0, wind);
                 r.weather(1, 1);
                 for (int n = 1; n <= 40; n++) {
                     alike += placesBy[a][n - 1].equals(placesBy[b][n - 1]) ? 1 : 0;
-                    Checks.due("same(" + a + ", " + b + ", " + n + ")", r.same(a, b, n), alike);
+                    Checks.due("WIND " + wind + ": same(" + a + ", " + b + ", " + n + ")", r.same(a, b, n), alike);
                 }
                 Checks.due("HIGH is as it was", r.count(7), 1);
             }
+        }
+    }
+
+    private static void sameAtHighWater() {
+        Edge.of("Terms 3", "SAME: in how many of n seeds all PLACES are alike with HIGH a and with HIGH b "
+            + "(a RUNNER that CAN not lie at its start with one of these: none).");
+        for (int wind = -1; wind <= 1; wind++) {
+            sameInWind(wind);
         }
         for (int a = 0; a <= 3; a++) {
             for (int b = 0; b <= 3; b++) {
