@@ -401,6 +401,14 @@ final class EdgesOfMemory {
                 }
             }
         }
+        // From its y: 16, 2 and 8 TICKS for STICK 2; the long ones need 6 and 4. Neither its first nor its last y counts.
+        StickRace middle = Checks.onBrook("1111;9999;2222", "h8,l3", "l3", "l1");
+        for (int n : new int[] {1, 40}) {
+            for (int i = 0; i <= 3; i++) {
+                Checks.due("by the y between: ladder(0, 7, " + n + ", " + i + ")", middle.ladder(0, 7, n, i),
+                    i < 3 ? 2 - i : NONE);
+            }
+        }
     }
 
     private static void spans() {
