@@ -2,7 +2,9 @@ import java.io.IOException;
 import java.nio.charset.StandardCharsets;
 import java.nio.file.Files;
 import java.nio.file.Path;
+import java.util.ArrayList;
 import java.util.LinkedHashMap;
+import java.util.List;
 import java.util.Map;
 import java.util.regex.Matcher;
 import java.util.regex.Pattern;
@@ -33,6 +35,25 @@ final class Doc {
             parts.put(promise.group(1), inOneLine(promise.group(2)));
         }
         return parts;
+    }
+
+    /** The lines of the public face, as they stand in the document; none if it does not lie where it should. */
+    static List<String> face() {
+        List<String> lines = new ArrayList<>();
+        if (!Files.exists(FILE)) {
+            System.out.println("no " + FILE + ": the face of the class is not compared with it");
+            return lines;
+        }
+        Matcher block = Pattern.compile("(?s)## The public face\\s+```java\n(.*?)```").matcher(read());
+        if (!block.find()) {
+            throw new IllegalStateException("the document has no public face");
+        }
+        for (String line : block.group(1).split("\n")) {
+            if (!line.isBlank()) {
+                lines.add(line);
+            }
+        }
+        return lines;
     }
 
     private static String read() {
